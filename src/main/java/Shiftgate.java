@@ -173,7 +173,7 @@ public final class Shiftgate {
         if (Integer.bitCount(graph.liveSet()) > Table.WIDEST) {
             throw new UnsupportedOperationException("more than 12 states");
         }
-        return algebra.coefficientOf(graph, power);
+        return algebra.graphCoefficient(graph, power);
     }
 
     public long growth(int shift, int steps, boolean isLow)
@@ -1071,7 +1071,10 @@ public final class Shiftgate {
         /** How many unlike futures there are, or -1, if there are too many sets. */
         private int countFutures(Graph graph) {
             int count = collectSets(graph);
-            int kindCount = count > 0 ? 1 : count;
+            if (count < 0) {
+                return -1;
+            }
+            int kindCount = count > 0 ? 1 : 0;
             Arrays.fill(kinds, 0);
             for (int round = 0; round < MOST_SETS; round++) {
                 int later = refine(count, graph.letters);
@@ -1490,7 +1493,7 @@ public final class Shiftgate {
             return large;
         }
 
-        private long coefficientOf(Graph graph, int power) {
+        private long graphCoefficient(Graph graph, int power) {
             countBetween(graph);
             return coefficientOf(third, power);
         }
