@@ -396,6 +396,13 @@ public final class PromiseTests {
         is(1, () -> x.period(3, 4));
         x.edge(3, 0, 'b', 0, false);
         is(2, () -> x.period(3, 4));
+        graph(3, 2, "0a2", "2a0", "1b1");
+        is(2, () -> x.period(4, 0));
+        is(2, () -> x.period(4, 2));
+        is(1, () -> x.period(4, 1));
+        graph(2, 2, "0a0", "0b1");
+        is(1, () -> x.period(5, 0));
+        is(NONE, () -> x.period(5, 1));
     }
 
     private static void irreducible() {
@@ -412,6 +419,10 @@ public final class PromiseTests {
         is(false, () -> x.isIrreducible(2));
         graph(3, 2, "0a0", "0a1", "1a2", "2b2");
         is(false, () -> x.isIrreducible(3));
+        graph(1, 2, "0a0");
+        is(true, () -> x.isIrreducible(4));
+        graph(3, 2, "2a2");
+        is(true, () -> x.isIrreducible(5));
     }
 
     private static void right() {
@@ -627,6 +638,11 @@ public final class PromiseTests {
         is("babb", () -> buffer(4));
         is(3, () -> x.slide(0));
         is("bba", () -> buffer(3));
+        type("ab");
+        is(1, () -> x.slide(0));
+        is("b", () -> buffer(1));
+        is(UNFIT, () -> x.slide(0));
+        is(1, () -> x.clear());
         type("a");
         is(UNFIT, () -> x.slide(0));
         type("");
@@ -694,6 +710,29 @@ public final class PromiseTests {
         is(STATE, () -> x.image(0, 5));
         is(UNFIT, () -> x.image(1, 5));
         is(UNFIT, () -> x.image(0, 2));
+        smallImages();
+    }
+
+    private static void smallImages() {
+        start(24);
+        x.code(2);
+        x.set(0, 'a', 'a', 'b');
+        graph(2, 2, "0a0", "0b1");
+        is(1, () -> x.image(0, 0));
+        is(1, () -> x.states(1));
+        is(true, () -> x.edge(1, 0, 'b', 0, true));
+        is(RANGE, () -> x.edge(1, 1, 'b', 0, true));
+        // the pairs by the number of letters times the state, plus the letter: 0b, 1a, 1b
+        x.set(0, 'b', 'a', 'b');
+        graph(2, 2, "0a1", "1b1", "1b0");
+        is(3, () -> x.image(0, 2));
+        is(3, () -> x.states(3));
+        is(true, () -> x.edge(3, 0, 'b', 1, true));
+        is(true, () -> x.edge(3, 1, 'a', 0, true));
+        is(true, () -> x.edge(3, 1, 'a', 2, true));
+        is(true, () -> x.edge(3, 2, 'a', 2, true));
+        is(true, () -> x.edge(3, 2, 'a', 0, true));
+        is(2.75, () -> x.meanEdges());
     }
 
     private static void oneToOne() {
@@ -714,6 +753,12 @@ public final class PromiseTests {
             is(true, () -> x.isOneToOne(0, 0, length));
         }
         x.set(0, 'a', 'b', 'b');
+        x.set(0, 'b', 'a', 'a');
+        for (int i = 1; i <= 5; i++) {
+            int length = i;
+            is(true, () -> x.isOneToOne(0, 0, length));
+        }
+        x.set(0, 'b', 'a', 'b');
         x.set(0, 'b', 'b', 'a');
         is(false, () -> x.isOneToOne(0, 0, 1));
         is(false, () -> x.isOneToOne(0, 0, 3));
@@ -805,6 +850,8 @@ public final class PromiseTests {
         is(false, () -> x.areLike(0, 1, 2, 3, 2));
         is(UNFIT, () -> x.areLike(0, 1, 3, 2, 1));
         is(UNFIT, () -> x.areLike(0, 0, 2, 3, 1));
+        is(UNFIT, () -> x.areLike(0, 1, 2, 2, 1));
+        is(UNFIT, () -> x.areLike(0, 1, 3, 3, 1));
         is(UNFIT, () -> x.areLike(2, 1, 2, 3, 1));
         is(UNFIT, () -> x.areLike(0, 2, 2, 3, 1));
         is(RANGE, () -> x.areLike(2, 1, 2, 3, 0));
@@ -1061,10 +1108,29 @@ public final class PromiseTests {
         x.becomes('b');
         is(1, () -> x.complexity(1));
         is(0, () -> x.complexity(2));
-        // 12 times on from a: c, then a row that is cut at 200
-        type("aaaa");
+        rowsThatStop();
+    }
+
+    /** Rows that come out unlike, if they are replaced once more or less, or cut elsewhere. */
+    private static void rowsThatStop() {
+        substitute("b", "c", "aab");
+        is(41, () -> x.complexity(8)); // 99 letters behind 12 times
+        substitute("b", "cac", "abb");
+        is(8, () -> x.complexity(2)); // 239 letters behind 7 times
+        is(38, () -> x.complexity(8));
+        substitute("b", "ca", "aab");
+        is(34, () -> x.complexity(8)); // just 200 letters
+        substitute("b", "acb", "cca");
+        is(45, () -> x.complexity(8)); // 199 would make 44, 201 would make 46
+    }
+
+    private static void substitute(String a, String b, String c) {
+        type(a);
+        x.becomes('a');
+        type(b);
+        x.becomes('b');
+        type(c);
         x.becomes('c');
-        is(1, () -> x.complexity(8));
     }
 
     private static void checksum() {
