@@ -635,7 +635,6 @@ public final class Shiftgate {
             return true;
         }
 
-        /** Whether one of its words stands in three letters. */
         private boolean bars(int first, int second, int third) {
             int start = 0;
             for (int i = 0; i <= size; i++) {
@@ -723,7 +722,6 @@ public final class Shiftgate {
             return count;
         }
 
-        /** The states to which an edge goes from a state, whatever its letter. */
         private int allTargets(int state) {
             int reached = 0;
             for (int letter = 0; letter < letters; letter++) {
@@ -742,7 +740,10 @@ public final class Shiftgate {
             return reached;
         }
 
-        /** The states that are not stranded: what is left, when those without an edge in or out go. */
+        /**
+         * The states that are not stranded. The neighbours on an endless way have one too, so these
+         * are what is left, when those without an edge in or out go, again and again.
+         */
         private int liveSet() {
             int live = (1 << states) - 1;
             for (int round = 0; round < MOST_STATES; round++) {
@@ -1171,7 +1172,10 @@ public final class Shiftgate {
             return place >= 0 && place < moves.length ? kindOf(moves[place]) : -1;
         }
 
-        /** 1, if two graphs have the same words, 0, if not, -1, if too many pairs are met. */
+        /**
+         * 1, if two graphs have the same words, 0, if not, -1, if too many pairs are met. A pair is
+         * judged ahead of being counted, as an unlike one may be the 401st.
+         */
         private int match(Graph one, Graph other) {
             int oneLive = one.liveSet();
             int otherLive = other.liveSet();
@@ -1232,7 +1236,7 @@ public final class Shiftgate {
             levels = new int[MOST_STATES];
         }
 
-        /** Finds for each state the states to which a way of one edge or more leads. */
+        /** Only ways with an edge count: a state that none brings back is in no part. */
         private void follow(Graph graph) {
             for (int state = 0; state < reach.length; state++) {
                 reach[state] = graph.allTargets(state);
@@ -1372,7 +1376,7 @@ public final class Shiftgate {
             return this.rows == rows && this.columns == columns;
         }
 
-        /** Gives it another shape, with 0 everywhere. */
+        /** Its numbers keep their room in each shape, so that no shape needs a new array. */
         private void reshape(int rows, int columns) {
             this.rows = rows;
             this.columns = columns;
@@ -1498,7 +1502,7 @@ public final class Shiftgate {
             return coefficientOf(third, power);
         }
 
-        /** Puts the counts of edges between states that are not stranded into the third table. */
+        /** The counts come into the third table, as the other two are needed for the coefficients. */
         private void countBetween(Graph graph) {
             int live = graph.liveSet();
             int size = Integer.bitCount(live);
@@ -1676,7 +1680,6 @@ public final class Shiftgate {
             return best;
         }
 
-        /** The counts of the states to which the edges of a state go, once for each edge. */
         private long sumBehind(Graph graph, int live, int state) {
             long sum = 0;
             for (int letter = 0; letter < graph.letters; letter++) {
@@ -1870,7 +1873,7 @@ public final class Shiftgate {
             }
         }
 
-        /** Makes the row; how many letters it has. */
+        /** Makes the row and tells its length. Letters behind the last place change none ahead of it. */
         private int grow() {
             Arrays.fill(row, 0);
             int size = 1;
