@@ -45,11 +45,22 @@ public final class OracleTests {
         }
     }
 
-    /** Each call has been answered, and each exception thrown, at least a few times. */
+    /** Each call has been answered, and has thrown each exception of its signature. */
     private static void checkCoverage() {
-        for (Map.Entry<String, int[]> entry : new java.util.TreeMap<>(seen).entrySet()) {
-            if (System.getenv("SHOW") != null) {
-                System.out.println(entry.getKey() + " " + entry.getValue()[0]);
+        for (java.lang.reflect.Method method : Shiftgate.class.getMethods()) {
+            if (method.getDeclaringClass() != Shiftgate.class) {
+                continue;
+            }
+            String name = method.getName();
+            boolean isAnswered = seen.containsKey(name + " answers") || seen.containsKey(name + " true");
+            if (!isAnswered) {
+                tell(-1, name, "nothing", "an answer");
+            }
+            for (Class<?> thrown : method.getExceptionTypes()) {
+                String due = "throws." + thrown.getSimpleName();
+                if (!seen.containsKey(name + " " + due)) {
+                    tell(-1, name, "never " + due, "such a call");
+                }
             }
         }
     }
@@ -120,9 +131,16 @@ public final class OracleTests {
         for (int i = 0; i < CALLS; i++) {
             oneCall(run, x, m);
         }
-        for (int i = 0; i < 41 && m.buffer.length() < 40; i++) {
-            both(run, "signAt()", () -> x.signAt(0), () -> m.signAt(0));
+        // a full buffer, and what reads it
+        for (int i = 0; i < 42; i++) {
+            char sign = (char) ('a' + pick(2));
+            both(run, "type(" + sign + ")", () -> x.type(sign), () -> m.type(sign));
         }
+        both(run, "signAt(39)", () -> x.signAt(39), () -> m.signAt(39));
+        both(run, "isWord(0)", () -> x.isWord(0), () -> m.isWord(0));
+        both(run, "slide(0)", () -> x.slide(0), () -> m.slide(0));
+        both(run, "signAt(38)", () -> x.signAt(38), () -> m.signAt(38));
+        both(run, "signAt(39)", () -> x.signAt(39), () -> m.signAt(39));
     }
 
     /** Makes some shifts, codes and matrices ahead, that there is something to ask. */
