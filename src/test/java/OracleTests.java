@@ -15,12 +15,14 @@ import java.util.TreeSet;
  * follows the document's words with the Java library, by other ways than the program's.
  */
 public final class OracleTests {
-    private static final int RUNS = 1200;
-    private static final int CALLS = 300;
+    private static final int RUNS = 2400;
+    private static final int MOST_CALLS = 512;
+    private static final int LAST_CALLS = 47;
 
     private static long seed = 1;
     private static int wrong = 0;
     private static int calls = 0;
+    private static int asked = 0;
     private static final Map<String, int[]> seen = new HashMap<>();
 
     private static int pick(int bound) {
@@ -66,8 +68,8 @@ public final class OracleTests {
     }
 
     private static void checkRules() {
-        Shiftgate gate = new Shiftgate();
         for (int each = 0; each < 256; each++) {
+            Shiftgate gate = new Shiftgate();
             int rule = each;
             int due = Model.bruteOrphan(rule);
             String want = due == 0 ? "throws.NoSuchElementException" : "" + due;
@@ -107,7 +109,12 @@ public final class OracleTests {
         System.out.println("run " + run + ": " + call + " answered " + got + ", due is " + want);
     }
 
+    /** Asks both, unless an object has been asked as often as it may be. */
     private static void both(int run, String name, Call real, Call model) {
+        if (asked >= MOST_CALLS) {
+            return;
+        }
+        asked++;
         String got = ask(real);
         String want = ask(model);
         calls++;
@@ -121,14 +128,17 @@ public final class OracleTests {
     private static void oneRun(int run) {
         Shiftgate x = new Shiftgate();
         Model m = new Model();
+        asked = 0;
         int style = run % 8;
         if (style < 5) {
             grow(run, x, m, style);
         } else if (style < 7) {
             growWide(run, x, m);
             growLike(run, x, m);
+        } else if (run % 16 == 7) {
+            growFull(run, x, m);
         }
-        for (int i = 0; i < CALLS; i++) {
+        while (asked < MOST_CALLS - 2 * LAST_CALLS) {
             oneCall(run, x, m);
         }
         // a full buffer, and what reads it
@@ -141,6 +151,18 @@ public final class OracleTests {
         both(run, "slide(0)", () -> x.slide(0), () -> m.slide(0));
         both(run, "signAt(38)", () -> x.signAt(38), () -> m.signAt(38));
         both(run, "signAt(39)", () -> x.signAt(39), () -> m.signAt(39));
+    }
+
+    /** As many shifts, codes and matrices as there may be, and one more. */
+    private static void growFull(int run, Shiftgate x, Model m) {
+        for (int i = 0; i <= 8; i++) {
+            int gaps = from(1, 255);
+            int letters = 2 + pick(2);
+            int rows = from(1, 5);
+            both(run, "gaps(" + gaps + ")", () -> x.gaps(gaps), () -> m.gaps(gaps));
+            both(run, "code(" + letters + ")", () -> x.code(letters), () -> m.code(letters));
+            both(run, "matrix(" + rows + ")", () -> x.matrix(rows, rows), () -> m.matrix(rows, rows));
+        }
     }
 
     /** Makes some shifts, codes and matrices ahead, that there is something to ask. */

@@ -978,6 +978,7 @@ public final class PromiseTests {
     private static void forcing() {
         int[] order = {3, 5, 7, 9, 9999, 6, 10, 9998, 12, 20, 28, 24, 40, 6144, 8192, 4096, 64, 32, 16, 8, 4, 2, 1};
         for (int i = 0; i < order.length; i++) {
+            start(36);
             for (int j = 0; j < order.length; j++) {
                 int one = order[i];
                 int other = order[j];
