@@ -516,6 +516,13 @@ public final class ShiftBoundaryTests extends Sentences {
             });
             refused(UNFIT, () -> x().areSame(0, 1));
         });
+        sentence("a pair that is empty both is counted, too: without it the 401st were an unlike one", () -> {
+            given(() -> {
+                roundThree(4, 8, 1, 4, 58, 22, 8, 18, 42, 16, 11, 0);
+                roundThree(9, 1, 16, 32, 22, 2, 0, 9, 10, 16, 18, 20);
+            });
+            refused(UNFIT, () -> x().areSame(0, 1));
+        });
         sentence("ahead of an unlike one: behind 399 pairs it is the 400th", () -> {
             round(2, 1, 1, 4, 8, 2, 32);
             round(2, 28, 0, 8, 1, 16);
@@ -568,6 +575,16 @@ public final class ShiftBoundaryTests extends Sentences {
         for (int from = 0; from < targets.length; from++) {
             x().edge(number, from, 'a', (from + targets.length - 1) % targets.length, true);
             drawBits(number, from, 'b', targets[from], targets.length);
+        }
+    }
+
+    /** Like round, but with six states and three letters: targets of b, then those of c. */
+    private static void roundThree(int... targets) {
+        int number = x().shift(6, 3);
+        for (int from = 0; from < 6; from++) {
+            x().edge(number, from, 'a', (from + 1) % 6, true);
+            drawBits(number, from, 'b', targets[from], 6);
+            drawBits(number, from, 'c', targets[6 + from], 6);
         }
     }
 
