@@ -302,6 +302,19 @@ public final class CodeBoundaryTests extends Sentences {
             code("aaba");
             is(true, () -> x().isOneToOne(2, 1, 2));
         });
+        sentence("isOneToOne: the last row of each length counts, too", () -> {
+            graph(2, 3, "0a0 1c1");
+            x().code(3);
+            for (int i = 1; i <= 5; i++) {
+                int length = i;
+                is(false, () -> x().isOneToOne(0, 0, length));
+            }
+            x().set(0, 'c', 'c', 'c');
+            for (int i = 1; i <= 5; i++) {
+                int length = i;
+                is(true, () -> x().isOneToOne(0, 0, length));
+            }
+        });
         sentence("a row of one letter is paired with itself", () -> {
             forbid("", 2);
             code("abbb");

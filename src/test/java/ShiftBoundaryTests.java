@@ -15,6 +15,7 @@ public final class ShiftBoundaryTests extends Sentences {
         samePairs();
         series();
         growth();
+        widestGraphs();
         askedAgain();
         end();
     }
@@ -566,6 +567,101 @@ public final class ShiftBoundaryTests extends Sentences {
             round(2, 66, 1, 64, 0, 68, 1, 16);
             round(2, 10, 2, 8, 1);
             is(false, () -> x().areSame(0, 1));
+        });
+    }
+
+    /** The shift 1 has 24 states and no edges: it is an image, whose edges are taken out again. */
+    private static void widest() {
+        x().shift(12, 2);
+        for (int i = 0; i < 12; i++) {
+            x().edge(0, i, 'a', (i + 1) % 12, true);
+            x().edge(0, i, 'b', (i + 5) % 12, true);
+        }
+        code("abab");
+        x().image(0, 0);
+        for (int i = 0; i < 24; i++) {
+            x().edge(1, i, 'a', 2 * ((i / 2 + 1) % 12), false);
+            x().edge(1, i, 'b', 2 * ((i / 2 + 5) % 12) + 1, false);
+        }
+    }
+
+    /** From each of the 24 states a leads to the next one, and from the last one b to the first one. */
+    private static void widestRound() {
+        widest();
+        for (int i = 0; i < 23; i++) {
+            x().edge(1, i, 'a', i + 1, true);
+        }
+        x().edge(1, 23, 'b', 0, true);
+    }
+
+    private static void widestGraphs() {
+        sentence("told by a graph with 1 to 24 states: 24 that no way comes from or goes on from", () -> {
+            given(ShiftBoundaryTests::widest);
+            is(12.0, () -> x().meanEdges());
+            is(0, () -> x().states(1));
+            is(0, () -> x().parts(1));
+            refused(NONE, () -> x().period(1, 23));
+            refused(RANGE, () -> x().period(1, 24));
+            is(0, () -> x().futures(1));
+            is(0, () -> x().words(1, 0));
+        });
+        sentence("24 states, of which one by one is stranded", () -> {
+            widest();
+            for (int i = 0; i < 23; i++) {
+                x().edge(1, i, 'a', i + 1, true);
+            }
+            x().edge(1, 0, 'b', 0, true);
+            is(1, () -> x().states(1));
+            is(false, () -> x().edge(1, 23, 'b', 23, true));
+            is(24, () -> x().states(1));
+            is(2, () -> x().parts(1));
+            is(true, () -> x().edge(1, 0, 'b', 0, false));
+            is(1, () -> x().states(1));
+            is(1, () -> x().parts(1));
+            is(1, () -> x().period(1, 23));
+            is(NONE, () -> x().period(1, 22));
+        });
+        sentence("24 states in one part", () -> {
+            given(ShiftBoundaryTests::widestRound);
+            is(24, () -> x().states(1));
+            is(1, () -> x().parts(1));
+            is(24, () -> x().period(1, 0));
+            is(24, () -> x().period(1, 23));
+            refused(RANGE, () -> x().period(1, 24));
+            is(true, () -> x().isIrreducible(1));
+            is(true, () -> x().isRight(1));
+            is(1.0f, () -> x().liveShare());
+            is(31L * (12 + 7 * 24) + 24 + 7 * 24, () -> x().checksum());
+            is(true, () -> x().edge(1, 23, 'b', 0, false));
+            is(0, () -> x().states(1));
+        });
+        sentence("words and points of 24 states", () -> {
+            given(ShiftBoundaryTests::widestRound);
+            is(11, () -> x().words(1, 10));
+            is(0, () -> x().points(1, 1));
+            is(0, () -> x().points(1, 7));
+            is(true, () -> x().isOneToOne(0, 1, 5));
+            type(times("a", 23) + "b");
+            is(true, () -> x().isWord(1));
+            type(times("a", 24));
+            is(false, () -> x().isWord(1));
+            type(times("a", 23) + "b" + times("a", 16));
+            is(true, () -> x().isWord(1));
+        });
+        sentence("futures and growth of 24 states", () -> {
+            given(ShiftBoundaryTests::widestRound);
+            is(47, () -> x().futures(1));
+            is(true, () -> x().areSame(1, 1));
+            is(false, () -> x().areSame(0, 1));
+            is(1000L, () -> x().growth(1, 6, true));
+            is(1000L, () -> x().growth(1, 6, false));
+            refused(UNFIT, () -> x().series(1, 0));
+            is(false, () -> x().edge(1, 23, 'a', 0, true));
+            is(1, () -> x().points(1, 1));
+            is(1000L, () -> x().growth(1, 0, true));
+            is(2000L, () -> x().growth(1, 0, false));
+            is(false, () -> x().edge(1, 23, 'a', 23, true));
+            is(false, () -> x().isRight(1));
         });
     }
 
