@@ -17,7 +17,8 @@ abstract class Sentences {
     static final Class<?> ZERO = ArithmeticException.class;
     private static final int MOST_CALLS = 512;
     private static final List<String> HELPERS =
-            List.of("tell", "is", "isJust", "isMatrix", "refused", "beyond", "asIfAlone", "sentence", "given", "renew", "countCalls");
+            List.of("tell", "is", "isJust", "isMatrix", "isGroup", "isZeta", "compares", "refused", "beyond", "asIfAlone",
+                    "sentence", "given", "renew", "countCalls");
 
     private static String says;
     private static int sentences;

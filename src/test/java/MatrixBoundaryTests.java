@@ -215,11 +215,55 @@ public final class MatrixBoundaryTests extends Sentences {
             is(false, () -> x().areLike(zero, first, zero, zero, 2));
             is(false, () -> x().areLike(nilpotent, zero, zero, zero, 1));
         });
+        sentence("AR is RB, also in the last row, if R has more rows than columns", () -> {
+            int from = matrix(2, 2, 0, 0, 1, 0);
+            int zero = matrix(1, 1);
+            int there = matrix(2, 1, 1, 0);
+            int back = matrix(1, 2);
+            is(false, () -> x().areLike(from, zero, there, back, 2));
+            is(1, () -> x().put(there, 0, 0, 0));
+            is(true, () -> x().areLike(from, zero, there, back, 2));
+            is(0, () -> x().put(there, 1, 0, 9));
+            is(true, () -> x().areLike(from, zero, there, back, 2));
+        });
+        sentence("SA is BS, also in the last column, if S has more columns than rows", () -> {
+            int from = matrix(2, 2, 0, 1, 0, 0);
+            int zero = matrix(1, 1);
+            int there = matrix(2, 1);
+            int back = matrix(1, 2, 1, 0);
+            is(false, () -> x().areLike(from, zero, there, back, 2));
+            is(1, () -> x().put(back, 0, 0, 0));
+            is(true, () -> x().areLike(from, zero, there, back, 2));
+            is(0, () -> x().put(back, 0, 1, 9));
+            is(true, () -> x().areLike(from, zero, there, back, 2));
+        });
+        sentence("AR is RB and SA is BS, if R is a row and S is a column", () -> {
+            int zero = matrix(1, 1);
+            int from = matrix(2, 2, 0, 1, 0, 0);
+            int there = matrix(1, 2, 1, 0);
+            int back = matrix(2, 1);
+            is(false, () -> x().areLike(zero, from, there, back, 2));
+            is(1, () -> x().put(there, 0, 0, 0));
+            is(true, () -> x().areLike(zero, from, there, back, 2));
+            int turned = matrix(2, 2, 0, 0, 1, 0);
+            is(0, () -> x().put(back, 0, 0, 1));
+            is(false, () -> x().areLike(zero, turned, there, back, 2));
+            is(1, () -> x().put(back, 0, 0, 0));
+            is(true, () -> x().areLike(zero, turned, there, back, 2));
+        });
         sentence("areLike with the greatest numbers", () -> {
             int nines = matrix(5, 5, 9, 9, 9, 9, 9, 9, 9, 9, 9, 9, 9, 9, 9, 9, 9, 9, 9, 9, 9, 9, 9, 9, 9, 9, 9);
             is(true, () -> x().areLike(nines, nines, nines, nines, 2));
             is(false, () -> x().areLike(nines, nines, nines, nines, 4));
         });
+    }
+
+    private static void isGroup(int matrix, long... due) {
+        for (int i = 0; i < due.length; i++) {
+            int index = i;
+            is(due[i], () -> x().group(matrix, index));
+        }
+        is(NONE, () -> x().group(matrix, due.length));
     }
 
     private static void groups() {
@@ -263,11 +307,35 @@ public final class MatrixBoundaryTests extends Sentences {
             is(4L, () -> x().group(1, 1));
             is(24L, () -> x().group(1, 2));
         });
+        sentence("by adding whole multiples of rows or columns to others", () -> {
+            isGroup(matrix(2, 2, 1, 9, 0, 7), 3, 0);
+            isGroup(matrix(2, 2, 9, 2, 4, 5), 2, 12);
+            isGroup(matrix(3, 3, 9, 9, 9, 4, 3, 4, 0, 4, 7), 1, 2, 52);
+            isGroup(matrix(4, 4, 0, 4, 3, 0, 5, 5, 9, 6, 8, 4, 0, 2, 6, 4, 6, 1), 1, 1, 2, 756);
+            isGroup(matrix(5, 5, 7, 3, 6, 0, 0, 0, 7, 9, 0, 0, 8, 7, 0, 0, 5, 4, 4, 7, 7, 4, 4, 2, 4, 9, 1),
+                    1, 1, 1, 9, 1944);
+            isGroup(matrix(5, 5, 2, 4, 2, 1, 9, 1, 2, 1, 0, 1, 8, 6, 7, 8, 9, 7, 4, 2, 0, 1, 4, 6, 2, 0, 0),
+                    1, 1, 1, 4, 292);
+        });
+        sentence("changing rows, or columns, with each other, and turning signs", () -> {
+            isGroup(matrix(2, 2, 1, 2, 3, 1), 1, 6);
+            isGroup(matrix(2, 2, 1, 3, 9, 1), 3, 9);
+            isGroup(matrix(3, 3, 1, 6, 0, 0, 1, 2, 3, 0, 1), 1, 6, 6);
+            isGroup(matrix(3, 3, 1, 0, 7, 5, 1, 0, 0, 0, 1), 1, 35, 0);
+        });
         sentence("group throws UnsupportedOperationException if it is not square", () -> {
             given(Sentences::furnish);
             refused(UNFIT, () -> x().group(1, 0));
             refused(UNFIT, () -> x().group(1, 2));
         });
+    }
+
+    private static void isZeta(int matrix, long... due) {
+        for (int i = 0; i < due.length; i++) {
+            int power = i;
+            is(due[i], () -> x().zeta(matrix, power));
+        }
+        is(NONE, () -> x().zeta(matrix, due.length));
     }
 
     private static void zetas() {
@@ -289,6 +357,14 @@ public final class MatrixBoundaryTests extends Sentences {
             is(-9L, () -> x().zeta(2, 1));
             is(-59049L, () -> x().zeta(3, 5));
             is(1L, () -> x().zeta(3, 0));
+        });
+        sentence("the determinant of 1 less t times a matrix: each of its coefficients", () -> {
+            isZeta(matrix(1, 1, 0), 1, 0);
+            isZeta(matrix(2, 2, 7, 8, 8, 7), 1, -14, -15);
+            isZeta(matrix(3, 3, 9, 9, 9, 4, 3, 4, 0, 4, 7), 1, -19, 59, 63);
+            isZeta(matrix(4, 4, 0, 4, 3, 0, 5, 5, 9, 6, 8, 4, 0, 2, 6, 4, 6, 1), 1, -6, -111, -484, -912);
+            isZeta(matrix(5, 5, 7, 3, 6, 0, 0, 0, 7, 9, 0, 0, 8, 7, 0, 0, 5, 4, 4, 7, 7, 4, 4, 2, 4, 9, 1),
+                    1, -22, 1, 1358, -1520, -17314);
         });
         sentence("zeta throws UnsupportedOperationException if it is not square", () -> {
             given(Sentences::furnish);

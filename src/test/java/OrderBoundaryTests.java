@@ -118,6 +118,16 @@ public final class OrderBoundaryTests extends Sentences {
             refused(RANGE, () -> x().trace(1, 9));
             refused(UNFIT, () -> x().trace(1, 8));
         });
+        sentence("the one that is documented first is thrown: rules whose bits up to 255 are those of one that is onto", () -> {
+            given(Sentences::furnish);
+            for (int rule : new int[] {15, 30, 204, 240}) {
+                refused(NONE, () -> x().orphan(rule));
+                refused(RANGE, () -> x().orphan(rule + 256));
+                refused(RANGE, () -> x().orphan(rule - 256));
+                refused(RANGE, () -> x().isOnto(rule + 256));
+                refused(RANGE, () -> x().isOnto(rule - 256));
+            }
+        });
         sentence("the one that is documented first is thrown: substitutions", () -> {
             given(() -> furnishWith("abcab"));
             refused(RANGE, () -> x().becomes('d'));

@@ -165,6 +165,17 @@ public final class ShiftBoundaryTests extends Sentences {
             is(1, () -> x().words(0, 1));
             is(1, () -> x().words(0, 10));
         });
+        sentence("words that lead to many unlike sets: each set has words of its own behind it", () -> {
+            round(2, 192, 64, 0, 16, 0, 64, 128, 32);
+            round(3, 0, 128, 16, 64, 0, 0, 0, 32, 1024, 6, 32, 512);
+            int[] few = {1, 2, 4, 8, 16, 32, 64, 128, 256, 511, 1019};
+            int[] fewer = {1, 2, 4, 8, 16, 31, 59, 111, 204, 372, 671};
+            for (int i = 0; i <= 10; i++) {
+                int length = i;
+                is(few[i], () -> x().words(0, length));
+                is(fewer[i], () -> x().words(1, length));
+            }
+        });
     }
 
     private static void isWord() {
