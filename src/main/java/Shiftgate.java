@@ -420,8 +420,10 @@ public final class Shiftgate {
     public long checksum() {
         long sum = 0;
         for (int i = 0; i < shiftCount; i++) {
-            Graph graph = shiftAt(i);
-            sum = 31 * sum + Integer.bitCount(graph.liveSet()) + 7 * graph.countEdges();
+            Graph graph = shiftOrNull(i);
+            if (graph != null) {
+                sum = 31 * sum + Integer.bitCount(graph.liveSet()) + 7 * graph.countEdges();
+            }
         }
         return sum;
     }
@@ -430,9 +432,11 @@ public final class Shiftgate {
         int live = 0;
         int all = 0;
         for (int i = 0; i < shiftCount; i++) {
-            Graph graph = shiftAt(i);
-            live += Integer.bitCount(graph.liveSet());
-            all += graph.states;
+            Graph graph = shiftOrNull(i);
+            if (graph != null) {
+                live += Integer.bitCount(graph.liveSet());
+                all += graph.states;
+            }
         }
         if (all == 0) {
             throw new ArithmeticException("there are no states");
@@ -446,7 +450,10 @@ public final class Shiftgate {
         }
         int sum = 0;
         for (int i = 0; i < shiftCount; i++) {
-            sum += shiftAt(i).countEdges();
+            Graph graph = shiftOrNull(i);
+            if (graph != null) {
+                sum += graph.countEdges();
+            }
         }
         return (double) sum / (double) shiftCount;
     }
@@ -472,21 +479,20 @@ public final class Shiftgate {
     // ---- What the face needs ----
 
     private Graph shiftAt(int number) {
-        if (number < 0 || number >= shiftCount || number >= shifts.length) {
-            throw new IndexOutOfBoundsException("no such shift");
-        }
-        Graph found = shifts[number];
+        Graph found = shiftOrNull(number);
         if (found == null) {
             throw new IndexOutOfBoundsException("no such shift");
         }
         return found;
     }
 
+    /** Apart from shiftAt, as calls that ask about all shifts may not throw what it throws. */
+    private Graph shiftOrNull(int number) {
+        return number >= 0 && number < shiftCount && number < shifts.length ? shifts[number] : null;
+    }
+
     private Block codeAt(int number) {
-        if (number < 0 || number >= codeCount || number >= codes.length) {
-            throw new IndexOutOfBoundsException("no such code");
-        }
-        Block found = codes[number];
+        Block found = number >= 0 && number < codeCount && number < codes.length ? codes[number] : null;
         if (found == null) {
             throw new IndexOutOfBoundsException("no such code");
         }
@@ -494,10 +500,7 @@ public final class Shiftgate {
     }
 
     private Table matrixAt(int number) {
-        if (number < 0 || number >= matrixCount || number >= matrices.length) {
-            throw new IndexOutOfBoundsException("no such matrix");
-        }
-        Table found = matrices[number];
+        Table found = number >= 0 && number < matrixCount && number < matrices.length ? matrices[number] : null;
         if (found == null) {
             throw new IndexOutOfBoundsException("no such matrix");
         }
@@ -510,13 +513,14 @@ public final class Shiftgate {
         }
     }
 
+    /** Keeps a shift, once room has been demanded for it, and tells its number. */
     private int addShift(Graph made) {
-        demandRoomForShift();
-        if (shiftCount < shifts.length) {
-            shifts[shiftCount] = made;
+        int number = shiftCount;
+        if (number >= 0 && number < shifts.length) {
+            shifts[number] = made;
+            shiftCount++;
         }
-        shiftCount++;
-        return shiftCount - 1;
+        return number;
     }
 
     private static void demandRange(int number, int least, int most) {
